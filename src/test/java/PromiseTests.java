@@ -179,6 +179,7 @@ public final class PromiseTests extends Suite {
         due("fault: chance 11", houseFault("house 3;calls 0 to 1 11 0 0 0;"), 4 + 16 * 21);
         due("fault: last chance 11", houseFault("house 3;calls 0 to 1 0 0 0 11;"), 4 + 16 * 27);
         due("fault: 9 together", houseFault("house 3;calls 0 to 1 5 0 0 4;"), 4 + 16 * 27);
+        due("fault: 15 together", houseFault("house 3;calls 0 to 1 5 0 0 10;"), 4 + 16 * 27);
         due("fault: 12 together at the last", houseFault("house 3;calls 0 to 1 6 6 0 0;"), 4 + 16 * 27);
         due("fault: no last", houseFault("house 3;calls 0 to 1 6 6 0;"), 1 + 16 * 26);
         String one = "calls 0 to 1 10 0 0 0;";
@@ -203,6 +204,9 @@ public final class PromiseTests extends Suite {
         due("fault: a number for a name", houseFault("house 3;habit 1 1;"), 1 + 16 * 14);
         String four = "house 3;habit a 1;habit b 1;habit c 1;habit d 1;";
         due("fault: four habits", houseFault(four), 0);
+        due("fault: names of eight letters", houseFault("house 3;habit abcdefgh 1;habit abcdefgi 1;habit zzzzzzzz 1;"), 0);
+        due("fault: such a name again", houseFault("house 3;habit abcdefgh 1;habit abcdefgh 1;"), 3 + 16 * 31);
+        due("fault: a name of nine letters", houseFault("house 3;habit abcdefghi 1;"), 1 + 16 * 14);
         due("fault: five habits", houseFault(four + "habit a 1;"), 5 + 16 * four.length());
         String[] wrong = {"a b;", "a ;", "a ();", "a (1;", "a 1);", "a 1 1;", "a 1<2<3;", "a 1=2=3;", "a -1;", "a 1+;", "a and 1;", "a not;",
             "a 1 not 2;", "a bowl;", "a 12345;"};
@@ -665,6 +669,13 @@ public final class PromiseTests extends Suite {
         due("surely: the last gets nothing", in("house 1;bowl 3;calls 0 to 0 0 0 10 0;").surely(3), 0);
         due("surely: no apples", in("house 1;apples 9 worth 9;calls 0 to 0 0 10 0 0;").surely(1), 0);
         due("surely: none come", in("house 1;calls 0 to 0 3 7 0 0;").surely(1), 300000);
+        LastsEvening most = in("house 24;bowl 120;word 3;calls 0 to 23 0 10 0 0;");
+        due("surely: 120 toffees", most.surely(2), 1000000);
+        due("surely: 120 toffees, not enough for the word's", most.surely(3), 0);
+        most.come(1);
+        most.give(1);
+        most.undo();
+        due("surely: the fewest of 120", most.enough(2, 1000000), 47);
         due("surely: cut at each", in("house 8;calls 0 to 7 3 7 0 0;").surely(1), 65);
         due("surely: cut to 0", in("house 24;calls 0 to 23 3 7 0 0;").surely(1), 0);
     }
@@ -766,6 +777,7 @@ public final class PromiseTests extends Suite {
         due("fence: what is in the bowl now", x.fence(2), 10000 - 8000 + 10000);
         due("fence: each chance", in("house 1;bowl 1;worths 5 3 1;without 10;calls 0 to 0 5 5 0 0;").fence(0), 1250 - 2500 + 5000);
         due("fence: left", in("house 1;bowl 3;left 2;").fence(5), 0);
+        due("fence: 240 toffees", in("house 1;bowl 120;left 2;").fence(120), 0);
         dueThrow("fence: over", () -> over(FULL).fence(0));
         dueThrow("fence: dark", () -> dark(FULL).fence(0));
     }
