@@ -50,20 +50,6 @@ public final class PromiseTests extends Suite {
         t.close();
     }
 
-    private static LastsEvening dark(String house) {
-        LastsEvening x = in(house);
-        x.off();
-        return x;
-    }
-
-    private static LastsEvening over(String house) {
-        LastsEvening x = in(house);
-        for (int i = x.count(0); i > 0; i--) {
-            x.quarter();
-        }
-        return x;
-    }
-
     // Promise 1.
     private void aNewObject() {
         LastsEvening x = new LastsEvening();
@@ -247,17 +233,6 @@ public final class PromiseTests extends Suite {
         due("house anew: score", x.score(), 0);
         due("house anew: no calls", x.calls(0, 1), 0);
         due("house anew: value", x.value(0, 7, 0, false), 0);
-    }
-
-    private long given(String e) {
-        LastsEvening x = in("house 5;bowl 40;apples 3 worth 50;worths 9 5 2;calls 0 to 0 0 0 10 0;habit a " + e + ";");
-        long[] toffees = {0, 18, 28, 32, 100};
-        for (int how = 0; how < 5; how++) {
-            if (x.mean(0) == 1000 * toffees[how]) {
-                return how;
-            }
-        }
-        return -1;
     }
 
     private void formulas() {
