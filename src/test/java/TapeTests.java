@@ -935,6 +935,14 @@ public final class TapeTests extends Suite {
         due("by a fault they stay", x.mean(0), 3000);
     }
 
+    void houseAnewOfFewerHabits() {
+        LastsEvening x = in("house 1;bowl 3;calls 0 to 0 0 10 0 0;habit a 0;habit b 3;habit c 3;");
+        due("the second", x.habits(), 1);
+        fed(x, "house 1;bowl 3;calls 0 to 0 0 10 0 0;habit a 0;").house();
+        due("one alone", x.habits(), 0);
+        due("no second", x.close(1), -1);
+    }
+
     void houseAnewHabitsOfAThousandSignsAgainAndAgain() {
         String house = "house 1;bowl 3;calls 0 to 0 0 10 0 0;habit a 1" + "+1".repeat(450) + ";";
         LastsEvening x = new LastsEvening();

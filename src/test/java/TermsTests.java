@@ -4,6 +4,7 @@ public final class TermsTests extends Suite {
     private static final String TWO = "house 2;bowl 4;worths 5 3 1;left 1;without 10;calls 0 to 1 0 10 0 0;";
     // One caller in each of three quarters, word by two and more.
     private static final String WORD = "house 3;bowl 9;worths 5 3 1;without 10;word 2;calls 0 to 2 0 10 0 0;";
+    private static final String THREE_THEN_NONE = "house 2;bowl 9;worths 5 3 1;left 1;without 7;word 3;dark 99;calls 0 to 0 0 0 0 10;habit a 1;";
     private static final String ONE_IN_TEN = "worths 1 0 0;calls 0 to ";
 
     public static void main(String[] args) {
@@ -721,6 +722,30 @@ public final class TermsTests extends Suite {
         due("one by the word", x.value(1, 9, 0, true), 9000);
     }
 
+    void valueInTheLargestHouse() {
+        LastsEvening x = in("house 24;bowl 120;apples 12 worth 7;worths 5 0 0;dark 99;word 3;calls 0 to 23 0 10 0 0;");
+        due("the last quarter, two come", x.value(23, 120, 12, true), 14000);
+        due("the last but one, a toffee with word, then two apples", x.value(22, 120, 12, false), 19000);
+        due("no toffees", x.value(0, 0, 12, false), 84000);
+        due("without word", in("house 24;bowl 120;apples 12 worth 7;worths 5 0 0;dark 99;calls 0 to 23 0 10 0 0;").value(0, 120, 12, false),
+            12 * 7000 + 12 * 5000);
+    }
+
+    void valueOfAQuarterNotByTheOneAhead() {
+        // Three come for sure in the first quarter, none in the second.
+        LastsEvening x = in(THREE_THEN_NONE);
+        due("none", x.value(1, 9, 0, false), -9000);
+        due("one by the word", x.value(1, 9, 0, true), 9000 - 6000);
+        x.quarter();
+        due("mean", x.mean(0), -9000);
+        due("left", x.left(0), 9000);
+        due("surely", x.surely(3), 1000000);
+        due("fence: 18 are left, 9 and 9", x.fence(9), 0);
+        LastsEvening y = gone(THREE_THEN_NONE, 1, 3);
+        due("one by the word, of six", y.mean(0), 5000 - 5000);
+        due("that is left", y.left(0), 5000);
+    }
+
     void valueTheWordIsOutInTheNextOneAlone() {
         LastsEvening x = in("house 4;bowl 20;worths 5 0 0;word 3;dark 99;calls 0 to 0 0 10 0 0;");
         due("each brings one more", x.value(0, 20, 0, false), 20000);
@@ -1311,6 +1336,15 @@ public final class TermsTests extends Suite {
         LastsEvening x = in("house 2;bowl 3;habit a 1+(time=1);word 2;calls 0 to 1 0 5 0 5;");
         due("all ways", x.read(0, 2, 0, 0), 1000000);
         due("four the likeliest", x.read(0, 2, 0, 1), 4);
+    }
+
+    void readByChanceAndWord() {
+        LastsEvening x = in("house 3;bowl 9;habit a 1;word 1;calls 0 to 2 5 5 0 0;");
+        int[] chances = {0, 0, 0, 0, 125000, 250000, 250000, 125000, 125000, 125000};
+        for (int toffees = 0; toffees <= 9; toffees++) {
+            due("toffees " + toffees, x.read(0, 3, toffees, 0), chances[toffees]);
+            due("how many, toffees " + toffees, x.read(0, 3, toffees, 1), chances[toffees] == 0 ? -1 : 9 - toffees);
+        }
     }
 
     void readAsOftenAsAsked() {
