@@ -1347,6 +1347,12 @@ public final class TermsTests extends Suite {
         }
     }
 
+    void readATenthOfAMillionthIsOfTheSumYet() {
+        LastsEvening x = in("house 7;bowl 3;habit a 2;calls 0 to 0 0 1 9 0;calls 1 to 2 1 1 8 0;calls 3 to 3 1 8 1 0;calls 4 to 4 1 9 0 0;"
+            + "calls 5 to 6 1 1 8 0;");
+        due("nine tenths and one are one", x.read(0, 7, 0, 0), 999993);
+    }
+
     void readAsOftenAsAsked() {
         LastsEvening x = in("house 2;habit a 0;calls 0 to 0 5 5 0 0;");
         for (int i = 0; i < 3; i++) {
