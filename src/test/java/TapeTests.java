@@ -598,6 +598,10 @@ public final class TapeTests extends Suite {
         due("not less than 0", given("not(0-1)"), 0);
         due("3 and 2 is 1", given("3 and 2"), 1);
         due("(0-1) and 1", given("(0-1) and 1"), 1);
+        due("1 and (0-1)", given("1 and (0-1)"), 1);
+        due("(0-1) or 0", given("(0-1) or 0"), 1);
+        due("0 or (0-1)", given("0 or (0-1)"), 1);
+        due("0 and (0-1)", given("0 and (0-1)"), 0);
         due("0 and 2", given("0 and 2"), 0);
         due("2 and 0", given("2 and 0"), 0);
         due("0 or 2 is 1", given("0 or 2"), 1);
@@ -674,6 +678,18 @@ public final class TapeTests extends Suite {
         formulaFault("+", 1, 0);
     }
 
+    void eOtherWordsThanFactsAndNotAreNoParts() {
+        String words = "house bowl apples worth worths left without eggs from word dark rain twice calls to habit come give quarter off and or";
+        for (String word : (words + " a toffee heres").split(" ")) {
+            formulaFault(word, 1, 0);
+            formulaFault("1+" + word, 1, 2);
+            formulaFault("not (" + word + ")", 1, 5);
+        }
+        for (String fact : "toffees reserve time rest here".split(" ")) {
+            formulaFault("1+not (" + fact + ")", 0, 0);
+        }
+    }
+
     void ePartsTooMany() {
         formulaFault("1 1", 1, 2);
         formulaFault("1 not 1", 1, 2);
@@ -720,6 +736,27 @@ public final class TapeTests extends Suite {
         formulaFault("((((((1))))))", 5, 5);
         formulaFault("((((1)+(((1))))))", 5, 9);
         formulaFault("(not(not((1))))", 5, 9);
+    }
+
+    void eWithinIsTheSameBehindEachSignAndWord() {
+        for (String join : new String[] {"*", "+", "-", "<", "=", " and ", " or "}) {
+            int behind = 5 + join.length();
+            formulaFault("((((1" + join + "2))))", 0, 0);
+            formulaFault("((((1" + join + "(2)))))", 5, behind + 1);
+            formulaFault("((((1" + join + "not 2))))", 5, behind + 4);
+            formulaFault("1" + join + "((((2))))", 0, 0);
+            formulaFault("1" + join + "(((((2)))))", 5, behind + 1);
+            formulaFault("1" + join + "not not not not not 2", 5, behind + 16);
+        }
+    }
+
+    void eWithinDoesNotCountPartsBeside() {
+        for (String join : new String[] {"*", "+", "-", " and ", " or "}) {
+            formulaFault(("1" + join).repeat(12) + "1", 0, 0);
+            formulaFault("((((" + ("1" + join).repeat(12) + "1))))", 0, 0);
+            formulaFault(("((((1))))" + join).repeat(7) + "((((1))))", 0, 0);
+            formulaFault("((((" + ("1" + join).repeat(12) + "(1)))))", 5, 4 + 12 * (1 + join.length()) + 1);
+        }
     }
 
     void eWithin5OthersWhatCantStandThereIs1() {

@@ -221,6 +221,18 @@ public final class TermsTests extends Suite {
         due("not behind it", x.count(7), 0);
     }
 
+    void wordIsOutInTheDarkAllTheSame() {
+        LastsEvening x = in(WORD);
+        x.come(1);
+        x.give(2);
+        x.off();
+        x.quarter();
+        due("in the next one", x.count(7), 1);
+        due("nobody comes", x.come(1), false);
+        x.quarter();
+        due("not behind it", x.count(7), 0);
+    }
+
     void wordOfTheWordsQuarterAgain() {
         LastsEvening x = gone(WORD, 1, 2);
         x.come(1);
@@ -542,6 +554,14 @@ public final class TermsTests extends Suite {
         due("its score", on(TWO, "come 1;quarter;").judged(2), -10);
     }
 
+    void judgedByTheApplesAndToffeesThatAreLeftInIt() {
+        // Three come, then two: the three apples are for the three, the two toffees for the two.
+        String house = "house 2;bowl 2;apples 3 worth 9;worths 3 0 0;without 10;dark 99;calls 0 to 0 0 0 0 10;calls 1 to 1 0 0 10 0;";
+        due("as told", on(house, "come 3;give 4;quarter;come 2;give 1;quarter;").judged(1), -1);
+        due("apples again", on(house, "come 3;give 4;quarter;come 2;give 4;quarter;").judged(1), 4);
+        due("toffees first", on(house, "come 3;give 1;quarter;come 2;give 4;quarter;").judged(1), 1);
+    }
+
     void judgedBestForThoseOfTheWordToo() {
         String house = "house 2;bowl 9;worths 5 3 1;without 10;word 1;";
         String[] lasts = {"come 3;give 2;", "come 3;give 3;", "come 4;give 1;", "come 4;give 2;"};
@@ -731,6 +751,14 @@ public final class TermsTests extends Suite {
             12 * 7000 + 12 * 5000);
     }
 
+    void valueInAHouseOfMoreApplesThanQuarters() {
+        LastsEvening x = in("house 1;bowl 120;apples 12 worth 7;worths 5 4 3;word 3;calls 0 to 0 0 0 0 10;");
+        due("three toffees to four", x.value(0, 120, 12, true), 48000);
+        due("nine toffees to four, or an apple", x.value(0, 9, 12, true), 36000);
+        due("no toffees", x.value(0, 0, 12, true), 28000);
+        due("of no apples", x.value(0, 0, 0, true), 0);
+    }
+
     void valueOfAQuarterNotByTheOneAhead() {
         // Three come for sure in the first quarter, none in the second.
         LastsEvening x = in(THREE_THEN_NONE);
@@ -772,6 +800,15 @@ public final class TermsTests extends Suite {
     void bestOneMoreMakesIt4() {
         due("an apple worth more", in("house 1;bowl 3;apples 1 worth 7;").best(1), 4);
         due("an apple that keeps one from going without", in("house 1;apples 1 worth 0;without 1;").best(1), 4);
+    }
+
+    /** Word goes round by a give of 1 though the bowl is empty: the one whom it brings gets the apple. */
+    void bestOfEqualOnesTheWordByAnEmptyBowl() {
+        LastsEvening x = in("house 2;apples 1 worth 9;word 1;dark 99;");
+        due("the next quarter with the word", x.value(1, 0, 1, true), 9000);
+        due("the next quarter without it", x.value(1, 0, 1, false), 0);
+        due("1 is as good as 4", x.best(1), 1);
+        due("may", x.may(1), 9000);
     }
 
     void bestWithTheNextQuarterInMind() {
